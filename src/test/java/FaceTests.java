@@ -1,0 +1,116 @@
+import java.io.IOException;
+import java.lang.reflect.Constructor;
+import java.lang.reflect.Field;
+import java.lang.reflect.Method;
+import java.lang.reflect.Modifier;
+import java.nio.file.Files;
+import java.nio.file.Path;
+import java.util.HashSet;
+import java.util.Set;
+import java.util.TreeSet;
+import java.util.regex.Matcher;
+import java.util.regex.Pattern;
+
+/** The class has the document's public face and no more, and keeps to the rules of LANGUAGE.md that a test can see. */
+public final class FaceTests {
+    private static final String SOURCE = "src/main/java/FloodTerrain.java";
+    private static final Set<String> FACE = Set.of(
+        "public static final int BAD_CELL",
+        "public static final int BAD_HEIGHT",
+        "public static final int NONE",
+        "public FloodTerrain()",
+        "public int set(int,int)",
+        "public int shift(int,int,int)",
+        "public void pattern(int,int)",
+        "public int height(int)",
+        "public int level(int)",
+        "public int volume()",
+        "public int lakes()",
+        "public int lakeSize(int)",
+        "public int pass(int,int)",
+        "public int reach(int,int)",
+        "public int prominence(int)",
+        "public int summits()");
+    private static final String FORBIDDEN_WORDS = "import|package|float|double|String|Math|Integer|System|Arrays"
+        + "|Object|null|throw|throws|try|catch|finally|synchronized|assert|instanceof|enum|interface|record"
+        + "|extends|implements|protected|var|equals|hashCode|toString|getClass|clone|notify|wait";
+
+    private static int wrong = 0;
+
+    private static void check(boolean holds, String fault) {
+        if (!holds) {
+            wrong++;
+            System.out.println(fault);
+        }
+    }
+
+    private static void checkFace() {
+        Class<?> type = FloodTerrain.class;
+        check(Modifier.toString(type.getModifiers()).equals("public final"), "the class is not public final");
+        check(type.getDeclaredClasses().length == 0, "rule 1: a nested class");
+        Set<String> face = new TreeSet<>();
+        for (Field field : type.getDeclaredFields()) {
+            checkField(field);
+            if (!Modifier.isPrivate(field.getModifiers())) {
+                face.add(field.toString().replace("FloodTerrain.", ""));
+            }
+        }
+        for (Constructor<?> constructor : type.getDeclaredConstructors()) {
+            face.add(constructor.toString());
+        }
+        Set<String> publicNames = new HashSet<>();
+        for (Method method : type.getDeclaredMethods()) {
+            if (!Modifier.isPrivate(method.getModifiers())) {
+                face.add(method.toString().replace("FloodTerrain.", ""));
+                publicNames.add(method.getName());
+            }
+        }
+        for (Method method : type.getDeclaredMethods()) {
+            check(!Modifier.isPrivate(method.getModifiers()) || !publicNames.contains(method.getName()),
+                "rule 1: a private method is named " + method.getName());
+            check(method.getParameterCount() <= 7, "rule 10: too many parameters: " + method.getName());
+            check(!method.getReturnType().isArray(), "rule 4: an array is answered by " + method.getName());
+        }
+        check(face.equals(FACE), "the public face is " + face);
+    }
+
+    private static void checkField(Field field) {
+        Class<?> type = field.getType();
+        Class<?> element = type.isArray() ? type.getComponentType() : type;
+        check(element.isPrimitive() && element != float.class && element != double.class,
+            "rule 2: the type of " + field.getName());
+        if (Modifier.isStatic(field.getModifiers())) {
+            check(Modifier.isFinal(field.getModifiers()) && (type == int.class || type == long.class),
+                "rule 5: the static field " + field.getName());
+        }
+    }
+
+    private static void checkSource() throws IOException {
+        String code = Files.readString(Path.of(SOURCE))
+            .replaceAll("(?s)/\\*.*?\\*/", "")
+            .replaceAll("//[^\n]*", "");
+        Matcher word = Pattern.compile("\\b(" + FORBIDDEN_WORDS + ")\\b|->|::|\"").matcher(code);
+        while (word.find()) {
+            check(false, "a rule forbids " + word.group());
+        }
+        for (String line : code.split("\n")) {
+            check(!line.contains("new ")
+                    || line.matches("    private final (int|boolean)\\[\\] \\w+ = new \\1\\[CELLS\\];"),
+                "rule 4: an array is made in: " + line.strip());
+        }
+        // Inside the arguments of a call no second call may open; "if (" and the like, with their space, are no calls.
+        Matcher nested = Pattern.compile("\\b\\w+\\([^()]*\\b\\w+\\(").matcher(code);
+        while (nested.find()) {
+            check(false, "rule 10: a call inside a call: " + nested.group());
+        }
+    }
+
+    public static void main(String[] args) throws IOException {
+        checkFace();
+        checkSource();
+        System.out.println(wrong == 0 ? "the face is as due" : wrong + " faults");
+        if (wrong != 0) {
+            System.exit(1);
+        }
+    }
+}

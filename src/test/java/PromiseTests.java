@@ -282,9 +282,11 @@ public final class PromiseTests {
         due("10 its end counts", x.pass(0, 36), 10);
         due("10 into the pool", pools().pass(0, 18), 30);
         due("10 within the pool", pools().pass(18, 26), 10);
-        due("10 beside in number, not in place", terrain(
+        FloodTerrain wall = terrain(
             "...4....", "...4....", "...4....", "...4....",
-            "...4....", "...4....", "...4....", "...4....").pass(7, 8), 40);
+            "...4....", "...4....", "...4....", "...4....");
+        due("10 beside in number, not in place", wall.pass(7, 8), 40);
+        due("10 beside in number, not in place, back", wall.pass(8, 7), 40);
         for (int cell : WRONG_CELLS) {
             due("10 pass(" + cell + ", 5)", x.pass(cell, 5), BAD_CELL);
             due("10 pass(5, " + cell + ")", x.pass(5, cell), BAD_CELL);

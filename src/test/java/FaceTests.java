@@ -6,7 +6,9 @@ import java.lang.reflect.Modifier;
 import java.nio.file.Files;
 import java.nio.file.Path;
 import java.util.HashSet;
+import java.util.Map;
 import java.util.Set;
+import java.util.TreeMap;
 import java.util.TreeSet;
 import java.util.regex.Matcher;
 import java.util.regex.Pattern;
@@ -85,10 +87,13 @@ public final class FaceTests {
         }
     }
 
-    private static void checkSource() throws IOException {
-        String code = Files.readString(Path.of(SOURCE))
+    private static String code() throws IOException {
+        return Files.readString(Path.of(SOURCE))
             .replaceAll("(?s)/\\*.*?\\*/", "")
             .replaceAll("//[^\n]*", "");
+    }
+
+    private static void checkSource(String code) {
         Matcher word = Pattern.compile("\\b(" + FORBIDDEN_WORDS + ")\\b|->|::|\"").matcher(code);
         while (word.find()) {
             check(false, "a rule forbids " + word.group());
@@ -105,9 +110,63 @@ public final class FaceTests {
         }
     }
 
+    /** The body of each method by its name, told by the indent that the source keeps to. */
+    private static Map<String, String> methods(String code) {
+        Map<String, String> methods = new TreeMap<>();
+        Matcher method = Pattern.compile("(?ms)^    (?:public|private) [^=;{}]*?(\\w+)\\([^)]*\\) \\{\n(.*?)^    \\}$")
+            .matcher(code);
+        while (method.find()) {
+            check(methods.put(method.group(1), method.group(2)) == null, "two methods named " + method.group(1));
+        }
+        return methods;
+    }
+
+    private static Set<String> called(Map<String, String> methods, String name) {
+        Set<String> called = new TreeSet<>();
+        Matcher call = Pattern.compile("\\b(\\w+)\\(").matcher(methods.get(name));
+        while (call.find()) {
+            check(methods.containsKey(call.group(1)), "rule 3: a call of " + call.group(1));
+            called.add(call.group(1));
+        }
+        called.retainAll(methods.keySet());
+        return called;
+    }
+
+    private static void checkCalls(Map<String, String> methods) {
+        // Depths grow from the methods that call none; in a ring of calls none ever gets one.
+        Map<String, Integer> depths = new TreeMap<>();
+        for (int depth = 1; depth <= 6; depth++) {
+            Set<String> known = new HashSet<>(depths.keySet());
+            for (String name : methods.keySet()) {
+                if (!known.contains(name) && known.containsAll(called(methods, name))) {
+                    depths.put(name, depth);
+                }
+            }
+        }
+        for (String name : methods.keySet()) {
+            check(depths.containsKey(name), "rule 8 or 10: recursion, or calls more than six deep, in " + name);
+            check(methods.get(name).lines().count() <= 60, "rule 10: too long: " + name);
+        }
+    }
+
+    private static void checkSizes(Map<String, String> methods) {
+        int fields = 0;
+        for (Field field : FloodTerrain.class.getDeclaredFields()) {
+            fields += Modifier.isStatic(field.getModifiers()) ? 0 : 1;
+        }
+        check(fields <= 40, "rule 10: " + fields + " fields");
+        // The constructor is found beside the methods; a method missed would go unchecked.
+        int known = FloodTerrain.class.getDeclaredMethods().length + 1;
+        check(methods.size() == known, "only " + methods.size() + " of " + known + " methods found in the source");
+    }
+
     public static void main(String[] args) throws IOException {
         checkFace();
-        checkSource();
+        String code = code();
+        checkSource(code);
+        Map<String, String> methods = methods(code);
+        checkCalls(methods);
+        checkSizes(methods);
         System.out.println(wrong == 0 ? "the face is as due" : wrong + " faults");
         if (wrong != 0) {
             System.exit(1);

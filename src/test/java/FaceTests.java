@@ -110,6 +110,25 @@ public final class FaceTests {
         }
     }
 
+    private static void checkLoops(String code) {
+        // The one form of loop that the class uses; its end is seen if the counter is changed nowhere else.
+        Pattern form = Pattern.compile("(\\s*)for \\(int (\\w+) = \\w+; \\2 <=? \\w+; \\2\\+\\+\\) \\{");
+        check(!Pattern.compile("\\b(while|do)\\b").matcher(code).find(), "rule 8: a loop without a counter");
+        String[] lines = code.split("\n");
+        for (int i = 0; i < lines.length; i++) {
+            Matcher loop = form.matcher(lines[i]);
+            if (!loop.matches()) {
+                check(!lines[i].matches(".*\\bfor\\b.*"), "rule 8: not a counter against a bound: " + lines[i].strip());
+                continue;
+            }
+            Pattern changed = Pattern.compile("\\b" + loop.group(2) + " *([-+*/%&|^]|<<|>>>?)?=[^=]|\\b"
+                + loop.group(2) + " *(\\+\\+|--)|(\\+\\+|--) *" + loop.group(2) + "\\b");
+            for (int j = i + 1; !lines[j].equals(loop.group(1) + "}"); j++) {
+                check(!changed.matcher(lines[j]).find(), "rule 8: the counter is changed in: " + lines[j].strip());
+            }
+        }
+    }
+
     /** The body of each method by its name, told by the indent that the source keeps to. */
     private static Map<String, String> methods(String code) {
         Map<String, String> methods = new TreeMap<>();
@@ -164,6 +183,7 @@ public final class FaceTests {
         checkFace();
         String code = code();
         checkSource(code);
+        checkLoops(code);
         Map<String, String> methods = methods(code);
         checkCalls(methods);
         checkSizes(methods);
